@@ -169,7 +169,7 @@ public final class PacketField {
         if (s == null || !isStation(b) || a == b) {
             return false;
         }
-        s.hearing = on ? s.hearing | 1 << b : s.hearing & ~(1 << b);
+        s.hearing = on ? s.hearing | (1 << b) : s.hearing & ~(1 << b);
         return true;
     }
 
@@ -517,8 +517,8 @@ public final class PacketField {
 
     private static int hash(int a, int b) {
         int h = a * 1000003 + b;
-        h = (h ^ h >>> 15) * 1540483477;
-        return h ^ h >>> 13;
+        h = (h ^ (h >>> 15)) * 1540483477;
+        return h ^ (h >>> 13);
     }
 
     private boolean isStray(Bytes frame, int senders) {
@@ -581,7 +581,8 @@ public final class PacketField {
     private void takeSabm(Link l) {
         Station s = l.owner;
         int mark = taken.answer.mark;
-        if (mark >= 128 != l.other > s.number) {
+        boolean callerAbove = l.other > s.number;
+        if (callerAbove != (mark >= 128)) {
             return;
         }
         if (mark == l.path.mark) {
@@ -589,7 +590,7 @@ public final class PacketField {
             return;
         }
         int n = mark & 127;
-        int ahead = n - l.seen & 127;
+        int ahead = (n - l.seen) & 127;
         if (ahead < 1 || ahead > 63) {
             return;
         }
@@ -643,8 +644,8 @@ public final class PacketField {
 
     /** Looks at r; false if it can't be, and the LINK is DOWN then. */
     private boolean acknowledge(Link l) {
-        int went = taken.r - l.va & 7;
-        if (went > (l.vs - l.va & 7)) {
+        int went = (taken.r - l.va) & 7;
+        if (went > ((l.vs - l.va) & 7)) {
             say(l.owner, l.path, DM, false);
             l.goDown();
             return false;
@@ -684,7 +685,7 @@ public final class PacketField {
         }
         if (!l.isBusy()) {
             Bytes bytes = l.owner.receiver.frame;
-            l.vr = l.vr + 1 & 7;
+            l.vr = (l.vr + 1) & 7;
             l.rejects = false;
             if (taken.content == OF_PACKETS) {
                 receivePacket(l.owner, bytes, taken.start);
@@ -740,12 +741,12 @@ public final class PacketField {
         }
         l.clock = l.owner.settings[T];
         for (int i = 0; i < l.sent.count && !l.held; i++) {
-            sayInformation(l, l.va + i & 7, l.sent.rowAt(i));
+            sayInformation(l, (l.va + i) & 7, l.sent.rowAt(i));
         }
     }
 
     private static void callOther(Link l) {
-        l.calls = l.calls + 1 & 127;
+        l.calls = (l.calls + 1) & 127;
         l.restart(CALLING);
         l.inbox.clear();
         l.path.mark = l.calls + (l.owner.number > l.other ? 128 : 0);
@@ -828,7 +829,7 @@ public final class PacketField {
             l.outbox.dropFirst(count);
         }
         sayInformation(l, l.vs, content);
-        l.vs = l.vs + 1 & 7;
+        l.vs = (l.vs + 1) & 7;
         if (l.clock == 0) {
             l.clock = l.owner.settings[T];
         }
@@ -892,7 +893,7 @@ public final class PacketField {
         int c = 65535;
         for (int i = 0; i < 8 * count; i++) {
             int bit = row.at(i >> 3) >> (i & 7) & 1;
-            c = (c & 1) == bit ? c >> 1 : c >> 1 ^ 33800;
+            c = (c & 1) == bit ? c >> 1 : (c >> 1) ^ 33800;
         }
         return 65535 - c;
     }
@@ -1253,7 +1254,8 @@ public final class PacketField {
             answer.to = from;
             answer.firstVia = addresses > 2 ? addressAt(bytes, 7 * addresses - 7) : NONE;
             answer.secondVia = addresses > 3 ? addressAt(bytes, 14) : NONE;
-            return command != bytes.at(13) >= 128;
+            boolean response = bytes.at(13) >= 128;
+            return command != response;
         }
 
         int addressAt(Bytes bytes, int at) {
@@ -1518,7 +1520,7 @@ public final class PacketField {
             mailbox = new Rows(MAILBOX_MOST, INFORMATION_MOST);
             links = new Link[STATIONS];
             routes = new Routes(number);
-            hearing = (1 << STATIONS) - 1 & ~(1 << number);
+            hearing = ((1 << STATIONS) - 1) & ~(1 << number);
         }
 
         Link linkTo(int o) {
