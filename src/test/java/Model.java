@@ -3,8 +3,9 @@ import java.util.Arrays;
 import java.util.List;
 
 /**
- * The document once more, written without looking at the program and in the slowest, plainest way: lists of
- * numbers, whole rows of bits made ahead, every LINK looked at in every TICK. ModelTest compares the two.
+ * The document once more, in the slowest, plainest way: lists of numbers, whole rows of bits made ahead, every LINK
+ * looked at in every TICK. ModelTest compares the two. It has the program's author, so it shows slips of the program,
+ * but not where both misread the document.
  */
 final class Model {
     private static final int NONE = -1;
