@@ -20,6 +20,34 @@ final class Bench {
         h.call().tune(INJECTOR, 2, 1);
     }
 
+    /** None hears the station, so that what it sends is ANSWERED by none. */
+    Bench unheard() {
+        for (int k = 0; k <= INJECTOR; k++) {
+            if (k != s) {
+                h.call().hears(k, s, false);
+            }
+        }
+        return this;
+    }
+
+    /** Lets the QUEUE go; for a station that is unheard, with a T that is long. */
+    void drain() {
+        h.call().tune(s, 0, 256);
+        for (int i = 0; i < 10 && h.station(s, 1) + h.station(s, 0) > 0; i++) {
+            h.run(1000);
+        }
+        h.call().tune(s, 0, 0);
+        Harness.due(19, "FRAMES in the QUEUE behind drain()", h.station(s, 1), 0);
+    }
+
+    /** Lets FRAMES that are BAD come to the QUEUE until it has so many. */
+    void fill(int count) {
+        for (int i = h.station(s, 1); i < count; i++) {
+            h.raw(s, Harness.command(0, 1, 99, 7));
+        }
+        dueStation(1, count);
+    }
+
     /** TICKS from the one that begins to the one in which a FRAME ARRIVES. */
     static int ticksOf(int[] frame, int lead) {
         return 8 * lead + Model.bitsOf(frame).size() + 8;

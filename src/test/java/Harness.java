@@ -62,8 +62,36 @@ final class Harness {
         return field;
     }
 
+    /** How many calls this object may still have. */
+    int left() {
+        return 512 - calls;
+    }
+
     int run(int n) {
         return call().run(n);
+    }
+
+    /** TICKS in which a station hears NOISE, by a RATE that is on for these alone. */
+    int runWithNoise(int station, int n) {
+        call().tune(station, 7, 4096);
+        int arrived = run(n);
+        call().tune(station, 7, 0);
+        return arrived;
+    }
+
+    boolean raw(int station, int... frame) {
+        tape(frame);
+        return call().raw(station);
+    }
+
+    int letter(int s, int d, int... text) {
+        tape(text);
+        return call().letter(s, d);
+    }
+
+    int give(int s, int o, int... bytes) {
+        tape(bytes);
+        return call().give(s, o);
     }
 
     int station(int k, int what) {
@@ -135,6 +163,15 @@ final class Harness {
             }
         }
         return array(all);
+    }
+
+    /** So many BYTES, each one more than the one ahead. */
+    static int[] row(int count, int from) {
+        int[] all = new int[count];
+        for (int i = 0; i < count; i++) {
+            all[i] = from + i & 255;
+        }
+        return all;
     }
 
     static int[] bytes(int... all) {
