@@ -15,6 +15,7 @@ public final class ChannelEdgesTest {
     public static void main(String[] args) {
         stations0To5();
         rawOf15To90();
+        framesOf15And90OnTheAir();
         rawToAQueueOf12();
         queueOf12();
         chanceOf0To256();
@@ -103,6 +104,23 @@ public final class ChannelEdgesTest {
             dueStation(h, 0, 9, 0);
             Harness.dueRow(9, "the FRAME", h.queued(0, 0), fits ? Harness.row(count, 1) : new int[0]);
             Harness.due(9, "the TAPE behind it", h.call().end(1), false);
+        }
+    }
+
+    /** "A FRAME has 15 to 90": both ARRIVE, with as many 0s put between as there can be, and with none. */
+    private static void framesOf15And90OnTheAir() {
+        for (int count : new int[] {15, 90}) {
+            for (int b : new int[] {0, 255}) {
+                int[] frame = new int[count];
+                java.util.Arrays.fill(frame, b);
+                Harness h = new Harness();
+                h.call().tune(0, 0, 256);
+                h.raw(0, frame);
+                Harness.due(17, "run up to the last TICK of " + count, h.run(ticksOf(frame, 2) - 1), 0);
+                Harness.due(17, "the last TICK of " + count, h.run(1), 5);
+                dueStation(h, 5, 7, 0);
+                dueStation(h, 5, 8, 1);
+            }
         }
     }
 

@@ -38,6 +38,7 @@ public final class LinkEdgesTest {
         sabmBetweenCallers();
         anotherMark();
         numberRModulo8();
+        numberROfAllKinds();
         numberTModulo8();
         vsModulo8();
         clockBehindR();
@@ -559,6 +560,28 @@ public final class LinkEdgesTest {
                     b.due(20, 4, 1, fits ? (va + sent) % 8 : 0);
                     b.due(20, 4, 12, fits ? sent - went : 0);
                     b.dueLast(20, 1, Harness.response(2, 4, fits ? RR + POLL : DM, MARK));
+                }
+            }
+        }
+    }
+
+    /** "RR, RNR, REJ, I: First r: .. DOWN, and that is all": of COMMANDS and RESPONSES, also with N */
+    private static void numberROfAllKinds() {
+        int[][] kinds = {{RR, 1}, {RNR, 1}, {REJ, 1}, {RR, 0}, {RNR, 0}, {REJ, 0}, {RR + POLL, 0}, {REJ + POLL, 1}, {0, 1},
+            {POLL, 1}, {2 * 3, 1}};
+        for (int[] k : kinds) {
+            for (int went = 2; went <= 3; went++) {
+                Bench b = withWindow(6, 2);
+                int control = k[0] + 32 * ((6 + went) % 8);
+                boolean information = k[0] % 2 == 0;
+                int[] rest = information ? Harness.bytes(control, MARK, 240, 9) : Harness.bytes(control, MARK);
+                b.hear(Harness.frame(4, 2, k[1] == 1, new int[0], rest));
+                b.due(20, 4, 0, went == 2 ? 2 : 0);
+                b.due(20, 4, 2, 0);
+                b.due(20, 4, 12, 0);
+                b.due(20, 4, 10, went == 2 && (k[0] == 0 || k[0] == POLL) ? 1 : 0);
+                if (went == 3) {
+                    b.dueLast(20, 1, Harness.response(2, 4, DM, MARK));
                 }
             }
         }
