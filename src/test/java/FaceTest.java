@@ -11,14 +11,35 @@ public final class FaceTest {
             "tune", "raw", "call", "leave", "give", "read", "letter", "take", "beacon", "run", "time", "station", "link",
             "route", "best", "queued"));
 
+    /** The document's methods, with the types of their parameters and answers. */
+    private static final Set<String> SIGNATURES = new TreeSet<>(Set.of("boolean feed(int,int,int,int,int)",
+            "boolean end(int)", "int out(int)", "int bits(int)", "int unbits()", "boolean hears(int,int,boolean)",
+            "boolean tune(int,int,int)", "boolean raw(int)", "boolean call(int,int,int,int)", "boolean leave(int,int)",
+            "int give(int,int)", "int read(int,int,int)", "int letter(int,int)", "int take(int)", "int beacon(int)",
+            "int run(int)", "int time()", "int station(int,int)", "int link(int,int,int)", "int route(int,int,int,int)",
+            "int best(int,int)", "int queued(int,int,int)"));
+
     public static void main(String[] args) {
         constants();
         face();
+        signatures();
         stationsAtFirst();
         linksAtFirst();
         routesAtFirst();
         objectsAreApart();
         Harness.finish();
+    }
+
+    private static void signatures() {
+        Set<String> seen = new TreeSet<>();
+        for (Method m : PacketField.class.getDeclaredMethods()) {
+            if (Modifier.isPublic(m.getModifiers())) {
+                seen.add(m.toGenericString().replaceAll("public |PacketField\\.", ""));
+            }
+        }
+        Harness.due(1, "the methods of the face " + seen, seen.equals(SIGNATURES), true);
+        Class<?>[] none = PacketField.class.getDeclaredConstructors()[0].getParameterTypes();
+        Harness.due(1, "parameters of the constructor", none.length, 0);
     }
 
     private static void constants() {

@@ -1,11 +1,13 @@
 import java.util.Random;
 
 /**
- * All promises: runs of calls by fixed seeds, answered by the program and by Model. Each object has at most 512 calls.
+ * All promises: runs of calls by fixed seeds, answered by the program and by Model. Each object has 512 calls, the last
+ * one that is promised among them.
  */
 public final class ModelTest {
     private static final int CALLS = 330;
-    private static final int LOOKS = 150;
+    private static final int CALLS_OF_A_LONG_RUN = 480;
+    private static final int LAST_CALL = 512;
 
     private final Random random;
     private final int seed;
@@ -22,6 +24,9 @@ public final class ModelTest {
         int seeds = args.length > 0 ? Integer.parseInt(args[0]) : 400;
         for (int seed = 1; seed <= seeds; seed++) {
             new ModelTest(seed).play();
+        }
+        for (int seed = 1; seed <= Math.max(1, seeds / 20); seed++) {
+            new ModelTest(-seed).playLong();
         }
         Harness.finish();
     }
@@ -70,7 +75,32 @@ public final class ModelTest {
                 settings();
             }
         }
-        for (int i = 0; i < LOOKS; i++) {
+        lookToTheLastCall();
+    }
+
+    /** Some 300,000 TICKS, for what comes of counts and times that have grown great. */
+    private void playLong() {
+        tuneAll();
+        int style = below(5);
+        while (calls < CALLS_OF_A_LONG_RUN) {
+            int kind = below(100);
+            if (kind < 60) {
+                same(17, "run(1000)", program.run(1000), model.run(1000));
+            } else if (kind < 72) {
+                link(style);
+            } else if (kind < 80) {
+                content(style);
+            } else if (kind < 83) {
+                raw();
+            } else {
+                look();
+            }
+        }
+        lookToTheLastCall();
+    }
+
+    private void lookToTheLastCall() {
+        while (calls < LAST_CALL) {
             look();
         }
     }
